@@ -881,7 +881,7 @@ public final class MustardPast {
         }
 
         /** Each matter led to later ones alone, so no way is longer than there are matters. */
-        int waysTo(int from, int to, int depth) {
+        private int waysTo(int from, int to, int depth) {
             if (from == to) {
                 return 1;
             }
@@ -894,7 +894,7 @@ public final class MustardPast {
             return sum;
         }
 
-        int storyFrom(int from, int depth) {
+        private int storyFrom(int from, int depth) {
             int longest = 0;
             for (int m = 0; m < matters && depth < MAX_MATTERS; m++) {
                 if (bit(led[from], m) == 1) {
