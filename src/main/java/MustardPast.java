@@ -329,10 +329,6 @@ public final class MustardPast {
         if (!isMatter(matter) || !within(years, 0, MAX_AHEAD)) {
             return NONE;
         }
-        return sourAhead(matter, years);
-    }
-
-    private int sourAhead(int matter, int years) {
         int sour = now.sour[matter];
         for (int i = 0; i < years; i++) {
             sour = told.sourAfterYear(matter, sour, now.coats[matter]);
@@ -344,8 +340,10 @@ public final class MustardPast {
         if (!isMatter(matter) || now.sour[matter] != 0) {
             return NONE;
         }
+        int sour = 0;
         for (int years = 1; years <= MAX_AHEAD; years++) {
-            if (sourAhead(matter, years) != 0) {
+            sour = told.sourAfterYear(matter, sour, now.coats[matter]);
+            if (sour != 0) {
                 return years;
             }
         }
@@ -356,10 +354,12 @@ public final class MustardPast {
         if (!isMatter(matter)) {
             return NONE;
         }
+        int sour = now.sour[matter];
         for (int years = 0; years <= MAX_AHEAD; years++) {
-            if (sourAhead(matter, years) == 0) {
+            if (sour == 0) {
                 return years;
             }
+            sour = told.sourAfterYear(matter, sour, now.coats[matter]);
         }
         return NONE;
     }

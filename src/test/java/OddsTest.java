@@ -129,7 +129,26 @@ public final class OddsTest {
         Check.due("back", x.mark(0, true), true);
         Check.due("as it was", x.count(5), 4);
         Check.due("nothing is on it", x.mark(1, true), false);
+        sightsKept();
         Check.due("nothing is on it", x.mark(2, true), false);
+    }
+
+    private static void sightsKept() {
+        MustardPast x = Check.told("matter a plain in 1 sour 9;matter b plain in 1 sour 2;");
+        x.mark(0, false);
+        x.see(0, 2, true);
+        Check.round(x, "spread b;");
+        x.mark(1, false);
+        x.mark(0, true);
+        x.see(1, 5, false);
+        Check.round(x, "eat b;");
+        x.mark(2, false);
+        Check.due("back", x.mark(1, true), true);
+        Check.due("b", x.who(), 2);
+        Check.due("its round", x.judged(2), 1);
+        Check.due("back", x.mark(2, true), true);
+        Check.due("a", x.who(), 1);
+        Check.due("its round", x.judged(0), 0);
     }
 
     private static void counts() {
