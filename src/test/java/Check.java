@@ -6,15 +6,25 @@ final class Check {
 
     private static int asked = 0;
     private static int wrong = 0;
+    private static String about = "";
 
     private Check() {
+    }
+
+    /** What all that is asked from here on is about: it is told with every wrong answer. */
+    static void about(String sentence) {
+        about = sentence + ": ";
+    }
+
+    static int asked() {
+        return asked;
     }
 
     static void due(String what, long got, long want) {
         asked++;
         if (got != want) {
             wrong++;
-            System.out.println(what + " answered " + got + ", due is " + want);
+            System.out.println(about + what + " answered " + got + ", due is " + want);
         }
     }
 
