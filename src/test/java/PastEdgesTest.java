@@ -200,6 +200,21 @@ public final class PastEdgesTest {
         Check.due("it takes", x.spread(0), 39);
     }
 
+    @Says("E: Without takes: thick")
+    static void nothingOfALongLawIsLeft() {
+        MustardPast x = new MustardPast();
+        for (int i = 0; i < 2; i++) {
+            Check.due("a law that fills the tape", Check.past(x, "takes " + "1+".repeat(496) + "1;"), 0);
+        }
+        for (int i = 0; i < 24; i++) {
+            Check.due("nothing", x.past(), 0);
+        }
+        for (int i = 0; i < 2; i++) {
+            Check.due("a past", Check.past(x, "matter a plain in 1 sour 40;knife 4;"), 0);
+            Check.due("thick", x.spread(0), 36);
+        }
+    }
+
     @Says("NAME: A NAME is another WORD than matter, in, sour, led, knife, pot, adds, takes, spread, eat, year, the KINDS, not, and, or")
     static void wordsThatAreNoNames() {
         for (String word : RESERVED.split(" ")) {
